@@ -4,7 +4,7 @@
  */
 public final class ModelTest {
     private static final int CALLS = 512;
-    private static final int RUNS = 600;
+    private static final int RUNS = 300;
 
     private static long seed = 20260101L;
 
