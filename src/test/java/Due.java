@@ -2,15 +2,25 @@
 final class Due {
     private static int asked = 0;
     private static int wrong = 0;
+    private static String about = "";
 
     private Due() {}
+
+    /** What the questions from here on are about, said ahead of each answer that is not the one that is due. */
+    static void about(String words) {
+        about = words;
+    }
 
     static void is(String call, long got, long want) {
         asked++;
         if (got != want) {
             wrong++;
-            System.out.println(call + " answered " + got + ", due is " + want);
+            System.out.println(about + call + " answered " + got + ", due is " + want);
         }
+    }
+
+    static int asked() {
+        return asked;
     }
 
     static int wrong() {

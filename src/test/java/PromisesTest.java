@@ -1,8 +1,8 @@
 /** Each promise of the document: ordinary inputs, the edges that it names, and wrong inputs in their order. */
 public final class PromisesTest {
     private static final int NO_SUCH = -1, BAD_VALUE = -2, BAD_TEXT = -3, TOO_MANY = -4, NOT_POSSIBLE = -5, NONE = -6;
-    private static final int LOW = Integer.MIN_VALUE;
-    private static final int HIGH = Integer.MAX_VALUE;
+    private static final int LOW = Towns.LOW;
+    private static final int HIGH = Towns.HIGH;
 
     private PromisesTest() {}
 
@@ -33,25 +33,6 @@ public final class PromisesTest {
         promise22Restore();
         errorsChangeNothing();
         Due.end();
-    }
-
-    /** Two rings of three and of four squares, joined by road 3; road 8 leads out to square 7; square 8 stands alone. */
-    private static PartingRoads twoRings() {
-        PartingRoads x = new PartingRoads();
-        x.squares(9);
-        Due.putAll(x, "0-1:4;1-2:5;2-0:6;3-2:7;3-4:1;4-5:2;5-6:3;6-3:4;5-7:9");
-        Due.is("the two rings: read()", x.read(), 9);
-        return x;
-    }
-
-    /** Squares 0 - 1 - 2 - .. in a row, with roads of the lengths 1, 2, 3 .. */
-    private static PartingRoads row(int squares) {
-        PartingRoads x = new PartingRoads();
-        x.squares(squares);
-        for (int square = 1; square < squares; square++) {
-            x.build(square - 1, square, square);
-        }
-        return x;
     }
 
     private static PartingRoads fullOfRoads() {
@@ -131,7 +112,7 @@ public final class PromisesTest {
     }
 
     private static void promise04Lose() {
-        PartingRoads x = row(5);
+        PartingRoads x = Towns.row(5);
         Due.is("4: lose(4)", x.lose(4), NO_SUCH);
         Due.is("4: lose(-1)", x.lose(-1), NO_SUCH);
         Due.is("4: lose(HIGH)", x.lose(HIGH), NO_SUCH);
@@ -200,7 +181,7 @@ public final class PromisesTest {
     }
 
     private static void promise06Road() {
-        PartingRoads x = twoRings();
+        PartingRoads x = Towns.twoRings();
         int[][] due = {
             {0, 1, 4, 0, 3, 0}, {1, 2, 5, 0, 3, 0}, {0, 2, 6, 0, 3, 0}, {2, 3, 7, 1, NONE, 15}, {3, 4, 1, 0, 4, 0},
             {4, 5, 2, 0, 4, 0}, {5, 6, 3, 0, 4, 0}, {3, 6, 4, 0, 4, 0}, {5, 7, 9, 1, NONE, 7}};
@@ -216,7 +197,7 @@ public final class PromisesTest {
         x.build(4, 6, 1);
         Due.is("6: the chord's ring", x.road(10, 4), 3);
         Due.is("6: a shorter ring by the chord", x.road(4, 4), 3);
-        PartingRoads ring = row(16);
+        PartingRoads ring = Towns.row(16);
         ring.build(15, 0, 1);
         Due.is("6: a ring of 16", ring.road(15, 4), 16);
         Due.is("6: a ring of 16, road 0", ring.road(0, 4), 16);
@@ -230,7 +211,7 @@ public final class PromisesTest {
     }
 
     private static void promise07Square() {
-        PartingRoads x = twoRings();
+        PartingRoads x = Towns.twoRings();
         int[][] due = {
             {2, 0, 0, 255, 0}, {2, 0, 0, 255, 0}, {3, 1, 0, 255, 1}, {3, 1, 1, 255, 1}, {2, 0, 1, 255, 0},
             {3, 1, 1, 255, 1}, {2, 0, 1, 255, 0}, {1, 0, 2, 255, 0}, {0, 0, 3, 256, 0}};
@@ -267,7 +248,7 @@ public final class PromisesTest {
     }
 
     private static void promise08District() {
-        PartingRoads x = twoRings();
+        PartingRoads x = Towns.twoRings();
         int[][] due = {{7, 15, 1, 1}, {120, 10, 2, 1}, {128, 0, 1, 0}, {256, 0, 0, 0}};
         for (int district = 0; district < due.length; district++) {
             for (int what = 0; what < 4; what++) {
@@ -299,7 +280,7 @@ public final class PromisesTest {
     }
 
     private static void promise09Count() {
-        PartingRoads x = twoRings();
+        PartingRoads x = Towns.twoRings();
         x.put('1');
         int[] due = {9, 9, 2, 2, 3, 4, 0, 41, 1, 2};
         for (int what = 0; what < due.length; what++) {
@@ -318,7 +299,7 @@ public final class PromisesTest {
     }
 
     private static void promise10Way() {
-        PartingRoads x = twoRings();
+        PartingRoads x = Towns.twoRings();
         int[][] due = {{0, 7, 25, 2, 3}, {7, 0, 25, 2, 3}, {0, 1, 4, 0, 1}, {1, 6, 16, 1, 2}, {3, 3, 0, 0, 1}, {8, 8, 0, 0, 1}, {6, 7, 12, 1, 2}};
         for (int[] row : due) {
             for (int what = 0; what < 3; what++) {
@@ -351,14 +332,14 @@ public final class PromisesTest {
     }
 
     private static void promise11Must() {
-        PartingRoads x = twoRings();
+        PartingRoads x = Towns.twoRings();
         int[][] due = {{0, 7, 3, 8, NONE}, {7, 0, 8, 3, NONE}, {0, 4, 3, NONE, NONE}, {0, 2, NONE, NONE, NONE}, {5, 7, 8, NONE, NONE}, {7, 7, NONE, NONE, NONE}, {0, 8, NONE, NONE, NONE}};
         for (int[] row : due) {
             for (int place = 0; place < 3; place++) {
                 Due.is("11: must(" + row[0] + ", " + row[1] + ", " + place + ")", x.must(row[0], row[1], place), row[2 + place]);
             }
         }
-        PartingRoads long16 = row(16);
+        PartingRoads long16 = Towns.row(16);
         for (int place = 0; place < 15; place++) {
             Due.is("11: there, place " + place, long16.must(0, 15, place), place);
             Due.is("11: back, place " + place, long16.must(15, 0, place), 14 - place);
@@ -373,7 +354,7 @@ public final class PromisesTest {
     }
 
     private static void promise12CutOff() {
-        PartingRoads x = twoRings();
+        PartingRoads x = Towns.twoRings();
         for (int square = 0; square < 3; square++) {
             Due.is("12: cutOff(" + square + ", 3)", x.cutOff(square, 3), 248);
             Due.is("12: cutOff(" + square + ", 8)", x.cutOff(square, 8), 128);
@@ -393,7 +374,7 @@ public final class PromisesTest {
     }
 
     private static void promise13IfBuilt() {
-        PartingRoads x = twoRings();
+        PartingRoads x = Towns.twoRings();
         int[][] due = {{0, 7, 2, 2, 2}, {7, 0, 2, 2, 2}, {0, 1, 0, 4, 2}, {1, 4, 1, 3, 2}, {5, 7, 1, 3, 2}, {0, 8, 0, 4, 1}, {8, 7, 0, 4, 1}};
         for (int[] row : due) {
             for (int what = 0; what < 3; what++) {
@@ -425,9 +406,9 @@ public final class PromisesTest {
 
     private static void promise14BestBuilt() {
         bestIs("no roads", new PartingRoads(), 0, 1, 1);
-        bestIs("two rings", twoRings(), 0, 7, 0);
-        bestIs("a row of 16", row(16), 0, 15, 0);
-        PartingRoads ring = row(4);
+        bestIs("two rings", Towns.twoRings(), 0, 7, 0);
+        bestIs("a row of 16", Towns.row(16), 0, 15, 0);
+        PartingRoads ring = Towns.row(4);
         ring.build(0, 3, 1);
         bestIs("a ring", ring, 0, 1, 0);
         // Where nothing can be mended, a road within a piece still beats one that parts itself.
@@ -450,17 +431,17 @@ public final class PromisesTest {
     }
 
     private static void promise15WorstLoss() {
-        PartingRoads x = twoRings();
+        PartingRoads x = Towns.twoRings();
         Due.is("15: worstLoss(0)", x.worstLoss(0), 3);
         Due.is("15: worstLoss(1)", x.worstLoss(1), 15);
-        PartingRoads even = row(5);
+        PartingRoads even = Towns.row(5);
         Due.is("15: of several the lowest, road", even.worstLoss(0), 1);
         Due.is("15: of several the lowest, pairs", even.worstLoss(1), 6);
-        PartingRoads ring = row(4);
+        PartingRoads ring = Towns.row(4);
         ring.build(0, 3, 1);
         Due.is("15: none parts, road", ring.worstLoss(0), 0);
         Due.is("15: none parts, pairs", ring.worstLoss(1), 0);
-        PartingRoads halves = row(16);
+        PartingRoads halves = Towns.row(16);
         Due.is("15: the middle of 16, road", halves.worstLoss(0), 7);
         Due.is("15: the middle of 16, pairs", halves.worstLoss(1), 64);
         PartingRoads none = new PartingRoads();
@@ -473,7 +454,7 @@ public final class PromisesTest {
     }
 
     private static void promise16Needed() {
-        PartingRoads x = twoRings();
+        PartingRoads x = Towns.twoRings();
         for (int square = 0; square < 8; square++) {
             Due.is("16: needed(" + square + ")", x.needed(square), 1);
         }
@@ -484,7 +465,7 @@ public final class PromisesTest {
             Due.is("16: a star of " + square, star.needed(0), (square == 1 ? 2 : square + 1) / 2);
         }
         Due.is("16: the other end of the star", star.needed(7), 4);
-        PartingRoads ring = row(4);
+        PartingRoads ring = Towns.row(4);
         ring.build(0, 3, 1);
         Due.is("16: a ring", ring.needed(2), 0);
         PartingRoads two = new PartingRoads();
@@ -672,7 +653,7 @@ public final class PromisesTest {
     }
 
     private static void errorsChangeNothing() {
-        PartingRoads x = twoRings();
+        PartingRoads x = Towns.twoRings();
         x.save(0);
         Due.putAll(x, "0-0:5");
         long before = look(x);
