@@ -726,8 +726,11 @@ public final class PartingRoads {
             for (int round = 0; round < MOST_SQUARES && shorter; round++) {
                 shorter = false;
                 for (int road = 0; road < town.roadCount; road++) {
-                    shorter |= shorten(town.lower[road], town.higher[road], town.lengths[road]);
-                    shorter |= shorten(town.higher[road], town.lower[road], town.lengths[road]);
+                    // A road that shortens the way to its one end can't shorten the way back to the other.
+                    if (shorten(town.lower[road], town.higher[road], town.lengths[road])
+                            || shorten(town.higher[road], town.lower[road], town.lengths[road])) {
+                        shorter = true;
+                    }
                 }
             }
             return distances[other];

@@ -251,6 +251,7 @@ final class PlaceBoundaries {
         Due.is("no roads at all", Towns.empty(16).count(6), 0);
         Due.is("only roads that part", Towns.row(16).count(6), 0);
         Due.is("just one", Towns.ring(16).count(6), 0);
+        Due.is("the second one", Towns.read(4, "1-2:1;2-1:1").count(6), 1);
         PartingRoads x = Towns.read(16, "14-15:1;15-14:1");
         Due.is("the last one", x.count(6), 14);
         Due.putAll(x, "2-3:1;2-3:1;5-6:1;5-6:1");

@@ -279,6 +279,8 @@ final class TermBoundaries {
         Due.is("a row's last square but one", row.square(14, 1), 1);
         Due.is("a row's last square", row.square(15, 1), 0);
         Due.is("a ring", Towns.ring(16).count(4), 0);
+        Due.is("a star, square 0 alone", Towns.star(16, 15).count(4), 1);
+        Due.is("a star, square 15 alone", Towns.read(16, "15-0:1;15-1:1;15-2:1").count(4), 1);
         PartingRoads three = Towns.row(3);
         Due.is("the middle of three", three.square(1, 1), 1);
         three.build(0, 2, 1);

@@ -54,6 +54,9 @@ final class WayBoundaries {
         Due.is("the shortest", x.way(0, 15, 0), 1);
         PartingRoads around = Towns.read(16, "0-15:99;0-1:1;1-2:1;2-3:1;3-15:95");
         Due.is("more roads, but shorter", around.way(0, 15, 0), 98);
+        around.build(0, 1, 99);
+        around.build(3, 15, 99);
+        Due.is("longer roads beside them don't matter", around.way(0, 15, 0), 98);
         around.build(15, 0, 98);
         Due.is("as short", around.way(15, 0, 0), 98);
         around.build(15, 0, 97);
@@ -395,6 +398,8 @@ final class WayBoundaries {
                 Due.is("beside a star of " + rays, star.needed(15), 0);
             }
         }
+        Due.is("a star with the lowest and the highest of its squares outside", Towns.read(5, "2-0:1;2-3:1;2-4:1").needed(2), 2);
+        Due.is("a star with its middle behind all others", Towns.read(16, "15-0:1;15-1:1;15-2:1").needed(15), 2);
         PartingRoads apart = Towns.read(16, "0-1:1;2-3:1;2-4:1;2-5:1;6-7:1;7-6:1");
         Due.is("its own piece of two districts", apart.needed(1), 1);
         Due.is("its own piece of four districts", apart.needed(5), 2);
