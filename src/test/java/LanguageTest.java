@@ -7,7 +7,9 @@ import java.nio.file.Files;
 import java.nio.file.Path;
 import java.util.ArrayList;
 import java.util.List;
+import java.util.Map;
 import java.util.Set;
+import java.util.TreeMap;
 import java.util.TreeSet;
 import java.util.regex.Matcher;
 import java.util.regex.Pattern;
@@ -19,6 +21,15 @@ public final class LanguageTest {
     private static final String[] FORBIDDEN = {"throw", "throws", "try", "catch", "synchronized", "assert", "import", "package", "protected",
         "float", "double", "->", "::", "Exact\\(", "MAX_VALUE", "MIN_VALUE", "\"", "System\\.(?!arraycopy)"};
 
+    /** A method or constructor as it is laid out in the program: its head, and its body up to the bracket under the head's beginning. */
+    private static final Pattern METHOD = Pattern.compile("(?m)^( +)((?:\\w+(?:\\[\\])? )*?)(\\w+)\\([^()]*\\) \\{\\n((?:.*\\n)*?)\\1\\}$");
+    private static final Pattern CALL = Pattern.compile("\\b(\\w+)\\(");
+    private static final int MOST_LINES = 60;
+    private static final int MOST_PARAMETERS = 7;
+    private static final int MOST_CLASSES = 12;
+    private static final int MOST_FIELDS = 20;
+    private static final int MOST_OPEN_CALLS = 8;
+
     private LanguageTest() {}
 
     public static void main(String[] args) throws IOException {
@@ -27,6 +38,8 @@ public final class LanguageTest {
         innerClassesAreStatic();
         staticFieldsAreFinal();
         noForbiddenWords();
+        sizesAreKept();
+        callsMakeNothingAndEnd();
         Due.end();
     }
 
@@ -95,11 +108,75 @@ public final class LanguageTest {
         }
     }
 
+    private static String code() throws IOException {
+        return Files.readString(PROGRAM).replaceAll("(?s)/\\*.*?\\*/", "").replaceAll("//.*", "");
+    }
+
     private static void noForbiddenWords() throws IOException {
-        String code = Files.readString(PROGRAM).replaceAll("(?s)/\\*.*?\\*/", "").replaceAll("//.*", "");
+        String code = code();
         for (String word : FORBIDDEN) {
             String whole = Character.isLetter(word.charAt(0)) && word.matches("[a-z]+") ? "\\b" + word + "\\b" : word;
             Due.is("the program says " + word, Pattern.compile(whole).matcher(code).find() ? 1 : 0, 0);
         }
+    }
+
+    /** Rule 11. */
+    private static void sizesAreKept() {
+        List<Class<?>> classes = new ArrayList<>(List.of(PartingRoads.class.getDeclaredClasses()));
+        classes.add(PartingRoads.class);
+        Due.is("few classes", classes.size() <= MOST_CLASSES ? 1 : 0, 1);
+        for (Class<?> holder : classes) {
+            long fields = List.of(holder.getDeclaredFields()).stream().filter(field -> !Modifier.isStatic(field.getModifiers())).count();
+            Due.is("few fields in " + holder.getSimpleName(), fields <= MOST_FIELDS ? 1 : 0, 1);
+            for (Method method : holder.getDeclaredMethods()) {
+                Due.is("few parameters of " + method.getName(), method.getParameterCount() <= MOST_PARAMETERS ? 1 : 0, 1);
+            }
+        }
+    }
+
+    /** Rule 11's lines and open calls, rule 12's objects: a body is known by the name of its method, the constructors' bodies by their classes'. */
+    private static void callsMakeNothingAndEnd() throws IOException {
+        Map<String, String> bodies = new TreeMap<>();
+        int constructors = 0;
+        Matcher methods = METHOD.matcher(code());
+        while (methods.find()) {
+            boolean constructor = Character.isUpperCase(methods.group(3).charAt(0));
+            String body = methods.group(4);
+            Due.is("few lines in " + methods.group(3), body.lines().count() <= MOST_LINES ? 1 : 0, 1);
+            Due.is(methods.group(3) + " makes no object", constructor || !body.contains("new ") ? 1 : 0, 1);
+            bodies.merge(methods.group(3), body, String::concat);
+            constructors += constructor ? 1 : 0;
+        }
+        Due.is("all methods were found", bodies.keySet().containsAll(namesOfMethods()) ? 1 : 0, 1);
+        Due.is("constructors", constructors, 3);
+        for (String method : bodies.keySet()) {
+            int open = openCalls(method, bodies, 1);
+            Due.is(method + " opens few calls at once", open <= MOST_OPEN_CALLS ? 1 : 0, 1);
+        }
+    }
+
+    private static Set<String> namesOfMethods() {
+        Set<String> names = new TreeSet<>();
+        for (Class<?> inner : PartingRoads.class.getDeclaredClasses()) {
+            for (Method method : inner.getDeclaredMethods()) {
+                names.add(method.getName());
+            }
+        }
+        for (Method method : PartingRoads.class.getDeclaredMethods()) {
+            names.add(method.getName());
+        }
+        return names;
+    }
+
+    /** How many calls stand open at once at most; one more than may be, where methods call one another in a ring. */
+    private static int openCalls(String method, Map<String, String> bodies, int open) {
+        int most = open;
+        Matcher calls = CALL.matcher(bodies.get(method));
+        while (calls.find() && most <= MOST_OPEN_CALLS) {
+            if (bodies.containsKey(calls.group(1))) {
+                most = Math.max(most, openCalls(calls.group(1), bodies, open + 1));
+            }
+        }
+        return most;
     }
 }
